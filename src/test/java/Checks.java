@@ -1,0 +1,94 @@
+/** Counts the answers that are not as due; a test ends with finish(). */
+final class Checks {
+    static final int[] NO_ROWS = {
+        Integer.MIN_VALUE, Integer.MIN_VALUE + 1, Integer.MIN_VALUE + 7, -256, -64, -8, -7, -2, -1,
+        8, 9, 15, 16, 63, 64, 255, 256, 1 << 29, (1 << 29) + 3, Integer.MAX_VALUE - 7, Integer.MAX_VALUE
+    };
+
+    // Corners, lone rows and columns, diagonals, and matrices without any symmetry.
+    static final long[] MATRICES = {
+        0L, -1L, 1L, 0x80L, 0x0100000000000000L, 0x8000000000000000L, 0x7fffffffffffffffL,
+        0xffL, 0xff00000000000000L, 0x0101010101010101L, 0x8080808080808080L,
+        0x8040201008040201L, 0x0102040810204080L, 0x00000000ffffffffL, 0xffffffff00000000L,
+        0xaaaaaaaaaaaaaaaaL, 0x5555555555555555L, 0xaa55aa55aa55aa55L,
+        0x0123456789abcdefL, 0xfedcba9876543210L, 0x9e3779b97f4a7c15L, 0xc2b2ae3d27d4eb4fL
+    };
+
+    private static int wrong = 0;
+
+    private Checks() {
+    }
+
+    static void due(String what, long got, long want) {
+        if (got != want) {
+            wrong++;
+            System.out.println(what + " answered " + got + ", due is " + want);
+        }
+    }
+
+    static int rowOf(long matrix, int r) {
+        return (int) (matrix >>> (8 * r)) & 255;
+    }
+
+    static BitMatrix8 holding(long matrix) {
+        BitMatrix8 x = new BitMatrix8();
+        for (int r = 0; r < 8; r++) {
+            x.setRow(r, rowOf(matrix, r));
+        }
+        return x;
+    }
+
+    static void dueRows(String what, BitMatrix8 x, long matrix) {
+        for (int r = 0; r < 8; r++) {
+            due(what + ", then row(" + r + ")", x.row(r), rowOf(matrix, r));
+        }
+    }
+
+    // Written cell by cell over booleans, unlike the class, so that both don't err alike.
+    static boolean[][] cellsOf(long matrix) {
+        boolean[][] cells = new boolean[8][8];
+        for (int bit = 0; bit < 64; bit++) {
+            cells[bit / 8][bit % 8] = (matrix & (1L << bit)) != 0;
+        }
+        return cells;
+    }
+
+    static long matrixOf(boolean[][] cells) {
+        long matrix = 0;
+        for (int bit = 63; bit >= 0; bit--) {
+            matrix = 2 * matrix + (cells[bit / 8][bit % 8] ? 1 : 0);
+        }
+        return matrix;
+    }
+
+    static long transposed(long matrix) {
+        boolean[][] from = cellsOf(matrix);
+        boolean[][] to = new boolean[8][8];
+        for (int r = 0; r < 8; r++) {
+            for (int c = 0; c < 8; c++) {
+                to[c][r] = from[r][c];
+            }
+        }
+        return matrixOf(to);
+    }
+
+    static long flipped(long matrix) {
+        boolean[][] from = cellsOf(matrix);
+        boolean[][] to = new boolean[8][];
+        for (int r = 0; r < 8; r++) {
+            to[7 - r] = from[r];
+        }
+        return matrixOf(to);
+    }
+
+    static String hex(long matrix) {
+        return "0x" + Long.toHexString(matrix);
+    }
+
+    static void finish() {
+        System.out.println(wrong == 0 ? "all answers are as due" : wrong + " answers are not as due");
+        if (wrong != 0) {
+            System.exit(1);
+        }
+    }
+}

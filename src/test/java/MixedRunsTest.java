@@ -1,0 +1,47 @@
+/** Promises 2 to 5 together: long runs of calls beside a model of the matrix. */
+public final class MixedRunsTest {
+    private static final int CALLS = 200000;
+
+    public static void main(String[] args) {
+        for (long seed : Checks.MATRICES) {
+            run(seed);
+        }
+        Checks.finish();
+    }
+
+    // A fixed sequence of numbers chooses the calls, so that every run is the same.
+    private static void run(long seed) {
+        BitMatrix8 x = new BitMatrix8();
+        long model = 0L;
+        long state = seed;
+        for (int i = 0; i < CALLS / Checks.MATRICES.length; i++) {
+            state = state * 6364136223846793005L + 1442695040888963407L;
+            int choice = (int) (state >>> 60) & 3;
+            int r = (int) ((state >>> 50) & 15) - 4;
+            int b = (int) (state >>> 18);
+            boolean valid = r >= 0 && r <= 7;
+            String where = "seed " + Checks.hex(seed) + ", call " + i + ": ";
+            if (choice == 0) {
+                model = Checks.transposed(model);
+                Checks.due(where + "transpose()", x.transpose(), model);
+            } else if (choice == 1) {
+                model = Checks.flipped(model);
+                Checks.due(where + "flipV()", x.flipV(), model);
+            } else if (choice == 2) {
+                int old = valid ? Checks.rowOf(model, r) : -1;
+                Checks.due(where + "setRow(" + r + ", " + b + ")", x.setRow(r, b), old);
+                model = valid ? replaced(model, r, b) : model;
+            } else {
+                Checks.due(where + "row(" + r + ")", x.row(r), valid ? Checks.rowOf(model, r) : -1);
+            }
+        }
+    }
+
+    private static long replaced(long matrix, int r, int b) {
+        boolean[][] cells = Checks.cellsOf(matrix);
+        for (int c = 0; c < 8; c++) {
+            cells[r][c] = (b & (1 << c)) != 0;
+        }
+        return Checks.matrixOf(cells);
+    }
+}
