@@ -1,8 +1,21 @@
+import java.util.stream.IntStream;
+
 /** Counts the answers that are not as due; a test ends with finish(). */
 final class Checks {
-    static final int[] NO_ROWS = {
-        Integer.MIN_VALUE, Integer.MIN_VALUE + 1, Integer.MIN_VALUE + 7, -256, -64, -8, -7, -2, -1,
-        8, 9, 15, 16, 63, 64, 255, 256, 1 << 29, (1 << 29) + 3, Integer.MAX_VALUE - 7, Integer.MAX_VALUE
+    // Some come out as 0 to 7 when they are cut to a byte, or wrap around when they are multiplied by 8.
+    static final int[] BELOW_ROWS = {
+        -1, -2, -7, -8, -9, -64, -249, -256, -65536, -(1 << 29), 3 - (1 << 29),
+        Integer.MIN_VALUE + 7, Integer.MIN_VALUE + 1, Integer.MIN_VALUE
+    };
+    static final int[] ABOVE_ROWS = {
+        8, 9, 15, 16, 63, 64, 255, 256, 263, 65536, 1 << 29, (1 << 29) + 3,
+        Integer.MAX_VALUE - 7, Integer.MAX_VALUE - 1, Integer.MAX_VALUE
+    };
+    static final int[] NO_ROWS = IntStream.concat(IntStream.of(BELOW_ROWS), IntStream.of(ABOVE_ROWS)).toArray();
+
+    static final int[] WIDE_VALUES = {
+        0, 1, 2, 127, 128, 170, 254, 255, 256, 257, 511, 512, 65535, 65536, 1 << 30,
+        -1, -2, -127, -128, -129, -255, -256, -257, Integer.MIN_VALUE, Integer.MIN_VALUE + 128, Integer.MAX_VALUE
     };
 
     // Corners, lone rows and columns, diagonals, and matrices without any symmetry.
@@ -17,6 +30,18 @@ final class Checks {
     private static int wrong = 0;
 
     private Checks() {
+    }
+
+    /** Runs the test of one sentence; a call that throws is a wrong answer, and the other sentences still run. */
+    static void sentence(String says, Runnable test) {
+        int before = wrong;
+        try {
+            test.run();
+        } catch (RuntimeException | Error thrown) {
+            wrong++;
+            System.out.println("a call threw " + thrown);
+        }
+        System.out.println((wrong == before ? "holds:  " : "BROKEN: ") + says);
     }
 
     static void due(String what, long got, long want) {
@@ -59,6 +84,14 @@ final class Checks {
             matrix = 2 * matrix + (cells[bit / 8][bit % 8] ? 1 : 0);
         }
         return matrix;
+    }
+
+    static long replaced(long matrix, int r, int b) {
+        boolean[][] cells = cellsOf(matrix);
+        for (int c = 0; c < 8; c++) {
+            cells[r][c] = (b & (1 << c)) != 0;
+        }
+        return matrixOf(cells);
     }
 
     static long transposed(long matrix) {

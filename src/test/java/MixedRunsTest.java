@@ -4,7 +4,7 @@ public final class MixedRunsTest {
 
     public static void main(String[] args) {
         for (long seed : Checks.MATRICES) {
-            run(seed);
+            Checks.sentence("a run from seed " + Checks.hex(seed), () -> run(seed));
         }
         Checks.finish();
     }
@@ -30,18 +30,10 @@ public final class MixedRunsTest {
             } else if (choice == 2) {
                 int old = valid ? Checks.rowOf(model, r) : -1;
                 Checks.due(where + "setRow(" + r + ", " + b + ")", x.setRow(r, b), old);
-                model = valid ? replaced(model, r, b) : model;
+                model = valid ? Checks.replaced(model, r, b) : model;
             } else {
                 Checks.due(where + "row(" + r + ")", x.row(r), valid ? Checks.rowOf(model, r) : -1);
             }
         }
-    }
-
-    private static long replaced(long matrix, int r, int b) {
-        boolean[][] cells = Checks.cellsOf(matrix);
-        for (int c = 0; c < 8; c++) {
-            cells[r][c] = (b & (1 << c)) != 0;
-        }
-        return Checks.matrixOf(cells);
     }
 }

@@ -1,0 +1,38 @@
+/** 'What it is': the layout of the long, and that every call answers. */
+public final class WhatItIsTest {
+    public static void main(String[] args) {
+        Checks.sentence("cell (r,c) is bit 8r+c of the long", WhatItIsTest::eachCellIsItsBit);
+        Checks.sentence("bit 0 is the least significant bit, cell (0,0)", () -> onlyCell(0, 0, 1L));
+        Checks.sentence("bit 63 is the sign bit, cell (7,7)", () -> onlyCell(7, 7, Long.MIN_VALUE));
+        Checks.sentence("no call throws, whatever the arguments", WhatItIsTest::neverThrows);
+        Checks.finish();
+    }
+
+    // Twice flipped is as it was, so the second answer is the matrix itself.
+    private static void onlyCell(int r, int c, long want) {
+        BitMatrix8 x = new BitMatrix8();
+        x.setRow(r, 1 << c);
+        x.flipV();
+        Checks.due("the long with cell (" + r + "," + c + ") alone 1", x.flipV(), want);
+    }
+
+    private static void eachCellIsItsBit() {
+        for (int bit = 0; bit < 64; bit++) {
+            onlyCell(bit / 8, bit % 8, 1L << bit);
+        }
+    }
+
+    private static void neverThrows() {
+        for (long matrix : Checks.MATRICES) {
+            BitMatrix8 x = Checks.holding(matrix);
+            for (int r : Checks.WIDE_VALUES) {
+                for (int b : Checks.WIDE_VALUES) {
+                    x.setRow(r, b);
+                    x.transpose();
+                    x.row(r);
+                    x.flipV();
+                }
+            }
+        }
+    }
+}
