@@ -1,3 +1,6 @@
+import java.util.function.IntPredicate;
+import java.util.function.LongConsumer;
+import java.util.function.Supplier;
 import java.util.stream.IntStream;
 
 /** Counts the answers that are not as due; a test ends with finish(). */
@@ -13,6 +16,8 @@ final class Checks {
     };
     static final int[] NO_ROWS = IntStream.concat(IntStream.of(BELOW_ROWS), IntStream.of(ABOVE_ROWS)).toArray();
 
+    static final int[] ANY_ROWS = IntStream.concat(IntStream.range(0, 8), IntStream.of(NO_ROWS)).toArray();
+
     static final int[] WIDE_VALUES = {
         0, 1, 2, 127, 128, 170, 254, 255, 256, 257, 511, 512, 65535, 65536, 1 << 30,
         -1, -2, -127, -128, -129, -255, -256, -257, Integer.MIN_VALUE, Integer.MIN_VALUE + 128, Integer.MAX_VALUE
@@ -27,6 +32,11 @@ final class Checks {
         0x0123456789abcdefL, 0xfedcba9876543210L, 0x9e3779b97f4a7c15L, 0xc2b2ae3d27d4eb4fL
     };
 
+    private static final int PARTS = 16;
+    private static final int PART_SIZE = 1 << 28;
+    private static final long NONE = Long.MIN_VALUE;
+    private static final int CHOSEN_MATRICES = 100000;
+
     private static int wrong = 0;
 
     private Checks() {
@@ -35,20 +45,75 @@ final class Checks {
     /** Runs the test of one sentence; a call that throws is a wrong answer, and the other sentences still run. */
     static void sentence(String says, Runnable test) {
         int before = wrong;
+        // Said first, so that a call that never returns is seen to hang under its sentence.
+        System.out.print(says + ": ");
         try {
             test.run();
         } catch (RuntimeException | Error thrown) {
-            wrong++;
-            System.out.println("a call threw " + thrown);
+            tellWrong("a call threw " + thrown);
         }
-        System.out.println((wrong == before ? "holds:  " : "BROKEN: ") + says);
+        System.out.println(wrong == before ? "holds" : "\n  BROKEN");
     }
 
     static void due(String what, long got, long want) {
         if (got != want) {
-            wrong++;
-            System.out.println(what + " answered " + got + ", due is " + want);
+            tellWrong(what + " answered " + got + ", due is " + want);
         }
+    }
+
+    private static void tellWrong(String what) {
+        wrong++;
+        System.out.print("\n  " + what);
+    }
+
+    /** Asks for every int, in parts side by side; each makes its own predicate, so that no two share an object. */
+    static void holdsForEveryInt(String what, Supplier<IntPredicate> made) {
+        long[] firstWrong = IntStream.range(0, PARTS).parallel()
+            .mapToLong(part -> firstWrong(part * PART_SIZE, made.get())).toArray();
+        for (long first : firstWrong) {
+            if (first != NONE) {
+                tellWrong(what + " does not hold for " + first);
+            }
+        }
+    }
+
+    // It ends at the first wrong one, since there may be billions of them.
+    private static long firstWrong(int start, IntPredicate holds) {
+        for (int i = 0; i < PART_SIZE; i++) {
+            if (!holds.test(start + i)) {
+                return start + i;
+            }
+        }
+        return NONE;
+    }
+
+    /** Stands for every possible matrix: each pair of cells, each value of each row, and a fixed sequence. */
+    static void forManyMatrices(LongConsumer test) {
+        for (int one = 0; one < 64; one++) {
+            for (int other = 0; other <= one; other++) {
+                withOpposite(1L << one | 1L << other, test);
+            }
+        }
+        for (int r = 0; r < 8; r++) {
+            for (long b = 0; b < 256; b++) {
+                withOpposite(b << (8 * r), test);
+            }
+        }
+        long state = 0L;
+        for (int i = 0; i < CHOSEN_MATRICES; i++) {
+            state = next(state);
+            test.accept(state ^ state >>> 29);
+        }
+    }
+
+    private static void withOpposite(long matrix, LongConsumer test) {
+        test.accept(matrix);
+        test.accept(~matrix);
+    }
+
+    // A fixed sequence of numbers, so that every run is the same.
+    static long next(long state) {
+        return state * 6364136223846793005L + 1442695040888963407L;
     }
 
     static int rowOf(long matrix, int r) {
@@ -61,6 +126,10 @@ final class Checks {
             x.setRow(r, rowOf(matrix, r));
         }
         return x;
+    }
+
+    static boolean isRow(int r) {
+        return 0 <= r && r <= 7;
     }
 
     static void dueRows(String what, BitMatrix8 x, long matrix) {

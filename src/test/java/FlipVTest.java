@@ -8,6 +8,7 @@ public final class FlipVTest {
         Checks.sentence("4: if the new cell (7,7) is 1, the answer is negative", FlipVTest::negativeWithCorner);
         Checks.sentence("4: if the new cell (7,7) is 0, it is not", FlipVTest::notNegativeWithoutCorner);
         Checks.sentence("4: twice in a row brings back the matrix", FlipVTest::twiceBringsBack);
+        Checks.sentence("4: it works in the same way for every matrix", FlipVTest::worksForMany);
         Checks.sentence("4: all zero stays, the answer is 0L", () -> stays(0L));
         Checks.sentence("4: all one stays, the answer is -1L", () -> stays(-1L));
         Checks.sentence("4: after setRow(0, 1), row 7 is 1 and row 0 is 0", FlipVTest::firstRowExample);
@@ -75,6 +76,14 @@ public final class FlipVTest {
             Checks.due(on(matrix) + ", twice", x.flipV(), matrix);
             Checks.dueRows(on(matrix) + ", twice", x, matrix);
         }
+    }
+
+    private static void worksForMany() {
+        Checks.forManyMatrices(matrix -> {
+            BitMatrix8 x = Checks.holding(matrix);
+            Checks.due(on(matrix), x.flipV(), Checks.flipped(matrix));
+            Checks.due(on(matrix) + ", twice", x.flipV(), matrix);
+        });
     }
 
     private static void stays(long matrix) {

@@ -9,17 +9,16 @@ public final class MixedRunsTest {
         Checks.finish();
     }
 
-    // A fixed sequence of numbers chooses the calls, so that every run is the same.
     private static void run(long seed) {
         BitMatrix8 x = new BitMatrix8();
         long model = 0L;
         long state = seed;
         for (int i = 0; i < CALLS / Checks.MATRICES.length; i++) {
-            state = state * 6364136223846793005L + 1442695040888963407L;
+            state = Checks.next(state);
             int choice = (int) (state >>> 60) & 3;
             int r = (int) ((state >>> 50) & 15) - 4;
             int b = (int) (state >>> 18);
-            boolean valid = r >= 0 && r <= 7;
+            boolean valid = Checks.isRow(r);
             String where = "seed " + Checks.hex(seed) + ", call " + i + ": ";
             if (choice == 0) {
                 model = Checks.transposed(model);

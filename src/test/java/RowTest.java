@@ -30,15 +30,11 @@ public final class RowTest {
         }
     }
 
-    // From 8 up, over the wrap-around to the smallest int, to -1. It ends at the first wrong answer, since
-    // there may be billions of them.
     private static void refusesEveryOther() {
-        BitMatrix8 x = Checks.holding(0x9e3779b97f4a7c15L);
-        int r = 8;
-        while (r != 0 && x.row(r) == -1) {
-            r++;
-        }
-        Checks.due("the first r after 7 that is not refused", r, 0);
+        Checks.holdsForEveryInt("row(r) answers -1", () -> {
+            BitMatrix8 x = Checks.holding(0x9e3779b97f4a7c15L);
+            return r -> Checks.isRow(r) || x.row(r) == -1;
+        });
     }
 
     private static void reads(int r) {

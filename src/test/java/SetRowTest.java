@@ -55,17 +55,14 @@ public final class SetRowTest {
         }
     }
 
-    // From 8 up, over the wrap-around to the smallest int, to -1. It ends at the first wrong answer, since
-    // there may be billions of them.
+    // Each call is followed by a look at one row, in turn, so that a change would show in one of the next eight.
     private static void refusesEveryOther() {
         long matrix = 0x9e3779b97f4a7c15L;
-        BitMatrix8 x = Checks.holding(matrix);
-        int r = 8;
-        while (r != 0 && x.setRow(r, ~r) == -1) {
-            r++;
-        }
-        Checks.due("the first r after 7 that is not refused", r, 0);
-        Checks.dueRows("after every refused r", x, matrix);
+        Checks.holdsForEveryInt("setRow(r, ~r) answers -1 and changes nothing", () -> {
+            BitMatrix8 x = Checks.holding(matrix);
+            return r -> Checks.isRow(r)
+                || x.setRow(r, ~r) == -1 && x.row(r & 7) == Checks.rowOf(matrix, r & 7);
+        });
     }
 
     private static void replacesRow(int r) {
@@ -105,17 +102,12 @@ public final class SetRowTest {
         }
     }
 
-    // Each call's answer tells what the call before it stored; it ends at the first wrong one.
     private static void acceptsEveryValue() {
-        BitMatrix8 x = new BitMatrix8();
-        x.setRow(6, 165);
-        x.setRow(7, Integer.MIN_VALUE);
-        int b = Integer.MIN_VALUE;
-        while (b != Integer.MAX_VALUE && x.setRow(7, b + 1) == (b & 255)) {
-            b++;
-        }
-        Checks.due("the first b that is not stored as b & 255", b, Integer.MAX_VALUE);
-        Checks.dueRows("after every b in row 7", x, 0xffa5000000000000L);
+        Checks.holdsForEveryInt("setRow(7, b) stores b & 255 and leaves row 6", () -> {
+            BitMatrix8 x = new BitMatrix8();
+            x.setRow(6, 165);
+            return b -> x.setRow(7, b) >= 0 && x.row(7) == (b & 255) && x.row(6) == 165;
+        });
     }
 
     private static void replacesWholly(int old) {

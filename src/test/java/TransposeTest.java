@@ -8,6 +8,7 @@ public final class TransposeTest {
         Checks.sentence("3: if the new cell (7,7) is 0, it is not", TransposeTest::notNegativeWithoutCorner);
         Checks.sentence("3: the cells (r,r) keep their values", TransposeTest::diagonalStays);
         Checks.sentence("3: twice in a row brings back the matrix", TransposeTest::twiceBringsBack);
+        Checks.sentence("3: it works in the same way for every matrix", TransposeTest::worksForMany);
         Checks.sentence("3: all zero stays, the answer is 0L", () -> stays(0L));
         Checks.sentence("3: all one stays, the answer is -1L", () -> stays(-1L));
         Checks.sentence("3: after setRow(0, 255), every row is 1", TransposeTest::fullRowExample);
@@ -74,6 +75,14 @@ public final class TransposeTest {
             Checks.due(on(matrix) + ", twice", x.transpose(), matrix);
             Checks.dueRows(on(matrix) + ", twice", x, matrix);
         }
+    }
+
+    private static void worksForMany() {
+        Checks.forManyMatrices(matrix -> {
+            BitMatrix8 x = Checks.holding(matrix);
+            Checks.due(on(matrix), x.transpose(), Checks.transposed(matrix));
+            Checks.due(on(matrix) + ", twice", x.transpose(), matrix);
+        });
     }
 
     private static void stays(long matrix) {
